@@ -1,0 +1,34 @@
+/** What the tests of the project share: answers that are due, exceptions that are due, and the end. */
+final class Check {
+    private static int right = 0;
+    private static int wrong = 0;
+
+    private Check() {
+    }
+
+    static void due(String call, Object got, Object want) {
+        if (got.equals(want)) {
+            right++;
+        } else {
+            wrong++;
+            System.out.println(call + " answered " + got + ", due is " + want);
+        }
+    }
+
+    static void fails(String call, Class<? extends RuntimeException> want, Runnable calls) {
+        String got = "nothing";
+        try {
+            calls.run();
+        } catch (RuntimeException e) {
+            got = e.getClass().getSimpleName();
+        }
+        due(call + " throws", got, want.getSimpleName());
+    }
+
+    static void end() {
+        System.out.println(right + " answers are as due, " + wrong + " are not");
+        if (wrong != 0 || right == 0) {
+            System.exit(1);
+        }
+    }
+}
