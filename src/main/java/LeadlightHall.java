@@ -237,14 +237,14 @@ public final class LeadlightHall {
             throw new IllegalArgumentException("there is no such kind");
         }
         Pane pane = panes[piece];
-        if (isSoldered || pane.state != CUT || number == Paint.STAIN && pane.paint.has(number)) {
+        if (isSoldered || pane.state != CUT || number == Paint.STAIN && pane.paint.hasStain()) {
             throw new UnsupportedOperationException("it can't have this layer");
         }
-        if (pane.paint.rawLayers() + pane.paint.fixedLayers() >= MOST_LAYERS) {
+        if (pane.paint.keptLayers() >= MOST_LAYERS) {
             throw new IllegalStateException("it has 5 layers");
         }
         pane.paint.add(number);
-        return pane.paint.rawLayers() + pane.paint.fixedLayers();
+        return pane.paint.keptLayers();
     }
 
     public int fire(int pieces, int degrees) throws IllegalArgumentException, UnsupportedOperationException {
@@ -357,11 +357,11 @@ public final class LeadlightHall {
     }
 
     public int bears() {
-        return frame.mostBorne(isSoldered ? now - upYear : 0);
+        return frame.mostBorne(yearsUp());
     }
 
     public boolean stands() {
-        return frame.mostBorne(isSoldered ? now - upYear : 0) <= MOST_BORNE;
+        return frame.mostBorne(yearsUp()) <= MOST_BORNE;
     }
 
     // The years.
@@ -585,6 +585,10 @@ public final class LeadlightHall {
         if (!panes[piece].hasGlass()) {
             throw new NoSuchElementException("it has no glass");
         }
+    }
+
+    private int yearsUp() {
+        return isSoldered ? now - upYear : 0;
     }
 
     private int requireNext() {
@@ -1126,14 +1130,18 @@ public final class LeadlightHall {
             }
         }
 
-        boolean has(int kind) {
-            return kind >= 0 && kind < KINDS && raw[kind] + fixed[kind] > 0;
+        boolean hasStain() {
+            return raw[STAIN] + fixed[STAIN] > 0;
         }
 
         void add(int kind) {
             if (kind >= 0 && kind < KINDS) {
                 raw[kind]++;
             }
+        }
+
+        int keptLayers() {
+            return rawLayers() + fixedLayers();
         }
 
         int rawLayers() {

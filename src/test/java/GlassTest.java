@@ -299,6 +299,8 @@ public final class GlassTest {
         Check.due("stain was lost", hall.layers(0, 'r') + hall.layers(0, 'f'), 3);
         Check.due("paint s after a loss", hall.paint(0, 's'), 4);
         Check.due("paint e", hall.paint(0, 'e'), 5);
+        Check.due("matt is fixed", hall.layers(0, 'f'), 1);
+        Check.fails("paint a sixth onto a fixed one", STATE, () -> hall.paint(0, 'e'));
     }
 
     private static void paintRefused() {

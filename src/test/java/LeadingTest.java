@@ -278,5 +278,13 @@ public final class LeadingTest {
         Check.due("stands by 1009 years", up.stands(), true);
         up.years(1);
         Check.due("stands no more by 1010", up.stands(), false);
+        LeadlightHall late = cutAll("0");
+        late.years(500);
+        late.years(500);
+        late.comes();
+        late.solder();
+        late.years(500);
+        Check.due("stands by 500 years after 1000", late.stands(), true);
+        Check.due("bears by 500 years after 1000", late.bears(), 50);
     }
 }

@@ -259,6 +259,19 @@ public final class OpeningTest {
         Check.due("hinders nothing at a long way round",
                 wall("000000", "000000", "00##00", "00##00").hinders(0), '-');
         Check.due("hinders a way round that is whole", wall("0#00", "0#0#", "0000").hinders(0), 'c');
+        LeadlightHall top = new LeadlightHall();
+        top.open(0, 10, 2, 11, true);
+        top.lay(0, 0, 10, 2, 11);
+        top.open(1, 10, 1, 10, false);
+        Check.due("hinders a bow at the top", top.hinders(0), '-');
+        LeadlightHall snake = new LeadlightHall();
+        for (int row = 0; row < 12; row++) {
+            snake.open(row % 4 == 1 ? 11 : 0, row, row % 4 == 3 ? 0 : 11, row, true);
+        }
+        snake.lay(0, 0, 0, 11, 11);
+        Check.due("hinders a snake, which is whole", snake.hinders(0), 'c');
+        snake.open(6, 6, 6, 6, false);
+        Check.due("hinders a snake in two parts", snake.hinders(0), 'w');
         LeadlightHall hall = wall("0");
         Check.fails("hinders(-1)", INDEX, () -> hall.hinders(-1));
         Check.fails("hinders(30)", INDEX, () -> hall.hinders(30));
@@ -296,6 +309,12 @@ public final class OpeningTest {
         Check.due("split to the lowest free number", middle.split(1), 3);
         Check.due("split wants the same", middle.want(3, 7, 'v'), true);
         Check.due("split wants the same", middle.want(1, 7, 'v'), true);
+        LeadlightHall all = new LeadlightHall();
+        all.open(0, 0, 11, 11, true);
+        all.lay(0, 0, 0, 11, 11);
+        Check.due("split all", all.split(0), 1);
+        Check.due("split all behind the second column", all.size(0), 24);
+        Check.due("split all behind the second column", all.pieceAt(1, 11), 0);
         LeadlightHall lower = wall("2222", "2222");
         Check.due("split to a number below", lower.split(2), 0);
         looksLike("split to a number below", lower, "2000", "2000");

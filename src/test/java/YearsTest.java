@@ -18,6 +18,7 @@ public final class YearsTest {
         mend();
         stopgap();
         stopgapPlaces();
+        stopgapFarOff();
         year();
         hands();
         fits();
@@ -105,21 +106,34 @@ public final class YearsTest {
         dark.cut(0, 0, false);
         Check.due("at least 0", dark.looks(1, 1, 12), 0);
         Check.due("at least 0", dark.looks(1, 1, 8), 0);
-        Check.due("29 more takes nothing", lookOfBeside(5, 2), 29);
-        Check.due("30 more takes 5", lookOfBeside(5, 6), 45);
+        looksAtTheLimit();
         Check.due("a corner takes nothing", OpeningTest.wall(".#", "#.").looks(1, 1, 12), 0);
         LeadlightHall stone = OpeningTest.wall(".");
         Check.due("stone beside light", stone.looks(1, 0, 12), 0);
         Check.due("light beside stone", stone.looks(0, 0, 12), 100);
     }
 
-    /** A cell of a colour beside a bare one, at an hour from 12. */
-    private static int lookOfBeside(int colour, int how) {
-        LeadlightHall hall = OpeningTest.wall("0.");
-        hall.want(0, colour, '-');
-        hall.sheet(colour, 1, 1, 'h');
-        hall.cut(0, 0, false);
-        return how == 2 ? hall.looks(0, 0, 9) : hall.looks(0, 0, 12);
+    /** Colour 5 leaves 29 of 58, 36 of 72, 43 of 86; colour 0 with three layers 70 of 100. */
+    private static void looksAtTheLimit() {
+        int[][] beside = {{0, 1}, {2, 1}, {1, 0}, {1, 2}};
+        for (int[] at : beside) {
+            LeadlightHall clear = OpeningTest.wall("###", "#0#", "###");
+            clear.open(at[0], at[1], at[0], at[1], true);
+            clear.sheet(0, 1, 1, 'h');
+            clear.cut(0, 0, false);
+            for (int layer = 0; layer < 3; layer++) {
+                clear.paint(0, 't');
+            }
+            clear.fire(1, 660);
+            Check.due("30 more takes 5", clear.looks(1, 1, 12), 65);
+            LeadlightHall red = OpeningTest.wall("###", "#0#", "###");
+            red.open(at[0], at[1], at[0], at[1], true);
+            red.want(0, 5, '-');
+            red.sheet(5, 1, 1, 'h');
+            red.cut(0, 0, false);
+            Check.due("29 more takes nothing", red.looks(1, 1, 9), 29);
+            Check.due("36 more takes 5", red.looks(1, 1, 10), 31);
+        }
     }
 
     private static void looksWhenBroken() {
@@ -240,6 +254,19 @@ public final class YearsTest {
         }
     }
 
+    private static void stopgapFarOff() {
+        LeadlightHall hall = new LeadlightHall();
+        hall.open(7, 9, 8, 10, true);
+        hall.lay(0, 7, 9, 8, 10);
+        hall.sheet(0, 4, 2, 'h');
+        hall.cut(0, 0, false);
+        hall.comes();
+        hall.solder();
+        hall.sheet(0, 2, 2, 'h');
+        hall.hit(8, 10);
+        Check.due("a stopgap for a far piece out of a small sheet", hall.stopgap(0, 1), 1);
+    }
+
     private static void year() {
         LeadlightHall hall = OpeningTest.wall("01");
         hall.sheet(0, 12, 12, 'h');
@@ -309,6 +336,13 @@ public final class YearsTest {
         hall.hit(1, 0);
         hall.mend(1);
         Check.due("hands of the year 2000", hall.hands(), 2);
+        LeadlightHall old = LeadingTest.upWindow();
+        for (int year = 1; year <= 160; year++) {
+            old.years(year % 2 == 0 ? 1 : 20);
+            old.hit(0, 0);
+            old.mend(0);
+            Check.due("hands of many years", old.hands(), year + 1);
+        }
     }
 
     private static void fits() {
