@@ -398,7 +398,7 @@ public final class LeadlightHall {
             throw new UnsupportedOperationException("the window is not up");
         }
         int piece = wall.at(x, y);
-        if (piece < 0 || panes[piece].state != LEADED) {
+        if (!isPiece(piece) || panes[piece].state != LEADED) {
             return false;
         }
         panes[piece].state = BROKEN;
@@ -549,6 +549,10 @@ public final class LeadlightHall {
         return x >= 0 && x < SIDE && y >= 0 && y < SIDE;
     }
 
+    private static boolean isPiece(int number) {
+        return isWithin(number, 0, PIECES - 1);
+    }
+
     private static boolean isColour(int colour) {
         return colour >= 0 && colour < COLOURS;
     }
@@ -558,7 +562,7 @@ public final class LeadlightHall {
     }
 
     private static void requirePiece(int piece) {
-        if (piece < 0 || piece >= PIECES) {
+        if (!isPiece(piece)) {
             throw new IndexOutOfBoundsException("there is no such number of a piece");
         }
     }
@@ -582,7 +586,7 @@ public final class LeadlightHall {
     }
 
     private void requireGlass(int piece) {
-        if (!panes[piece].hasGlass()) {
+        if (!isPiece(piece) || !panes[piece].hasGlass()) {
             throw new NoSuchElementException("it has no glass");
         }
     }
@@ -636,7 +640,7 @@ public final class LeadlightHall {
         for (int y = low; y <= high; y++) {
             for (int x = left; x <= right; x++) {
                 int piece = wall.at(x, y);
-                if (piece >= 0 && panes[piece].hasGlass()) {
+                if (isPiece(piece) && panes[piece].hasGlass()) {
                     return true;
                 }
             }
@@ -671,7 +675,7 @@ public final class LeadlightHall {
         if (piece == STONE) {
             return 0;
         }
-        if (piece == BARE || panes[piece].lacksGlass()) {
+        if (!isPiece(piece) || panes[piece].lacksGlass()) {
             return level;
         }
         int colour = panes[piece].colour;

@@ -15,6 +15,17 @@ final class Check {
         }
     }
 
+    /** Of two long texts, it tells only where they part. */
+    static void like(String call, String got, String want) {
+        int from = 0;
+        while (from < got.length() && from < want.length() && got.charAt(from) == want.charAt(from)) {
+            from++;
+        }
+        int start = Math.max(0, from - 60);
+        due(call, got.substring(start, Math.min(got.length(), from + 60)),
+                want.substring(start, Math.min(want.length(), from + 60)));
+    }
+
     static void fails(String call, Class<? extends RuntimeException> want, Runnable calls) {
         String got = "nothing";
         try {

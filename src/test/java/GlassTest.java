@@ -159,7 +159,7 @@ public final class GlassTest {
     }
 
     /** Whether a shape can be cut out of a sheet of which only this is free: "00", "#0", "#0". */
-    private static boolean fitsHole(boolean isTurned, String... rows) {
+    static boolean fitsHole(boolean isTurned, String... rows) {
         LeadlightHall hall = OpeningTest.wall(rows);
         hall.open(11, 0, 11, 1, true);
         hall.lay(1, 11, 0, 11, 1);

@@ -131,7 +131,10 @@ public final class PlainGeometryTest {
     }
 
     private static char hinders(boolean[][] cells) {
-        return count(cells) == 0 ? 'e' : !isWhole(cells) ? 'w' : corners(cells) > 2 ? 'c' : point(cells) > 4 ? 'p' : '-';
+        if (count(cells) == 0) {
+            return 'e';
+        }
+        return !isWhole(cells) ? 'w' : corners(cells) > 2 ? 'c' : point(cells) > 4 ? 'p' : '-';
     }
 
     /** Whether the side to the left of, or below, a cell has lead. */

@@ -22,36 +22,50 @@ public final class WildCallsTest {
             }
         }
         methods.sort(Comparator.comparing(Method::getName));
-        for (int seed = 0; seed < 600; seed++) {
-            String one = run(methods, seed, true);
-            Check.due("the same calls answer the same", run(methods, seed, false), one);
+        for (int seed = 0; seed < 1500; seed++) {
+            compare(methods, seed);
         }
         Check.end();
     }
 
-    private static String run(List<Method> methods, int seed, boolean isLooking) throws Exception {
+    /** All calls, all again, and all but those that are refused, each time on a new object. */
+    private static void compare(List<Method> methods, int seed) throws Exception {
         Random random = new Random(seed);
-        LeadlightHall hall = new LeadlightHall();
-        StringBuilder story = new StringBuilder();
-        int calls = 512;
-        if (seed % 4 != 0) {
-            calls -= build(hall, random, seed % 4 == 1);
-        }
-        for (int call = 0; call < calls; call++) {
+        int form = random.nextInt(4);
+        int width = 1 + random.nextInt(4);
+        int built = build(new LeadlightHall(), form, width);
+        List<Method> called = new ArrayList<>();
+        List<Object[]> with = new ArrayList<>();
+        for (int call = built; call < 512; call++) {
             Method method = methods.get(random.nextInt(methods.size()));
-            Object[] with = arguments(method, random);
-            String before = isLooking ? stateOf(hall) : "";
-            String answer;
-            try {
-                answer = String.valueOf(method.invoke(hall, with));
-            } catch (InvocationTargetException e) {
-                answer = e.getCause().getClass().getSimpleName();
-                Check.due(method.getName() + " throws what it names: " + answer, isNamed(method, e.getCause()), true);
-                if (isLooking) {
-                    Check.due(method.getName() + " throws and changes nothing", stateOf(hall), before);
-                }
+            called.add(method);
+            with.add(arguments(method, random));
+        }
+        boolean[] isRefused = new boolean[called.size()];
+        String one = run(called, with, form, width, isRefused, false);
+        Check.like("the same calls answer the same", run(called, with, form, width, isRefused, false), one);
+        Check.like("refused calls change nothing", run(called, with, form, width, isRefused, true), one);
+    }
+
+    private static String run(List<Method> called, List<Object[]> with, int form, int width, boolean[] isRefused,
+            boolean isWithoutRefused) throws Exception {
+        LeadlightHall hall = new LeadlightHall();
+        build(hall, form, width);
+        StringBuilder story = new StringBuilder();
+        for (int call = 0; call < isRefused.length; call++) {
+            if (isWithoutRefused && isRefused[call]) {
+                continue;
             }
-            story.append(method.getName()).append('=').append(answer).append(' ');
+            Method method = called.get(call);
+            try {
+                Object answer = method.invoke(hall, with.get(call));
+                story.append(method.getName()).append('=').append(answer).append(' ');
+                isRefused[call] = false;
+            } catch (InvocationTargetException e) {
+                isRefused[call] = true;
+                Check.due(method.getName() + " throws what it names: " + e.getCause(), isNamed(method, e.getCause()),
+                        true);
+            }
         }
         return story.toString();
     }
@@ -84,14 +98,16 @@ public final class WildCallsTest {
         return with;
     }
 
-    /** Answers how many calls it made. */
-    private static int build(LeadlightHall hall, Random random, boolean isUp) {
-        int calls = 4;
+    /** Form 0 leaves stone, 1 pieces with glass, 2 leaded ones, 3 a window that is up. It answers its calls' number. */
+    private static int build(LeadlightHall hall, int form, int width) {
+        if (form == 0) {
+            return 0;
+        }
         hall.open(0, 0, 7, 7, true);
         for (int sheet = 0; sheet < 3; sheet++) {
             hall.sheet(0, 12, 12, 'h');
         }
-        int width = 1 + random.nextInt(4);
+        int calls = 4;
         int pieces = 0;
         for (int x = 0; x < 8; x += width) {
             for (int y = 0; y < 8; y += 4) {
@@ -101,39 +117,14 @@ public final class WildCallsTest {
                 calls += 2;
             }
         }
-        for (int piece = 0; piece < pieces && isUp; piece++) {
+        for (int piece = 0; piece < pieces && form >= 2; piece++) {
             hall.comes();
             calls++;
         }
-        if (isUp) {
+        if (form == 3) {
             hall.solder();
             calls++;
         }
         return calls;
-    }
-
-    private static String stateOf(LeadlightHall hall) {
-        StringBuilder state = new StringBuilder();
-        state.append(hall.checksum()).append(' ').append(hall.price()).append(' ').append(hall.hands()).append(' ')
-                .append(hall.bears()).append(' ').append(hall.isUp()).append(' ').append(hall.isSound()).append(' ')
-                .append(hall.lead()).append(' ').append(hall.joints()).append(' ').append(hall.isOrderly());
-        for (int piece = 0; piece < 30; piece++) {
-            state.append(' ').append(hall.layers(piece, 'r')).append(hall.layers(piece, 'f')).append(hall.glass(piece));
-            if (hall.glass(piece) != '-') {
-                state.append(hall.colour(piece)).append(hall.year(piece)).append(hall.fits(piece));
-            }
-        }
-        int z = hall.seed(1);
-        hall.seed(z);
-        state.append(' ').append(z);
-        int wind = hall.wind(0);
-        hall.wind(wind);
-        state.append(' ').append(wind);
-        for (int row = 1; row < 12; row++) {
-            boolean is = hall.bar(row, true);
-            hall.bar(row, is);
-            state.append(is ? '1' : '0');
-        }
-        return state.toString();
     }
 }
