@@ -858,6 +858,18 @@ public final class TermsTest {
         painted.hit(0, 0);
         painted.mend(0);
         Check.due("mending leaves the layers", painted.layers(0, 'f'), 1);
+        LeadlightHall wide = LeadingTest.cutAll("11#", "000");
+        wide.comes();
+        wide.comes();
+        wide.solder();
+        wide.sheet(3, 2, 1, 'h');
+        wide.sheet(3, 3, 1, 'h');
+        wide.hit(0, 0);
+        wide.hit(0, 1);
+        Check.due("another is asked for", wide.corners(0), 0);
+        Check.due("a stopgap is as large as its piece", wide.stopgap(1, 1), 1);
+        Check.due("a stopgap is as large as its piece", wide.stopgap(0, 2), 2);
+        Check.due("both use all", wide.free(1) + wide.free(2), 0);
         LeadlightHall cornered = LeadingTest.cutAll("0##0", "0000");
         cornered.comes();
         cornered.solder();
@@ -910,6 +922,8 @@ public final class TermsTest {
         hall.sheet(0, 12, 12, 'h');
         hall.seed(5);
         Check.due("cut", hall.cut(0, 0, false), true);
+        Check.due("only the like one", hall.fits(0), 1);
+        Check.due("another is asked for", hall.corners(4), 1);
         Check.due("only the like one", hall.fits(0), 1);
         hall.want(1, 1, '-');
         Check.due("it wants another colour", hall.fits(0), 0);
